@@ -78,8 +78,11 @@ public final class ChangesTest {
         CHECK.same("4 stock card", runs.draw(false), 33);
         CHECK.same("4 the card drawn from the stock", runs.drop(33), 36);
         CHECK.same("4 first one moves", runs.match(4), 0);
-        CHECK.same("4 draw what was drawn before", runs.draw(true), 33);
+        CHECK.same("4 draw what was dropped", runs.draw(true), 33);
         CHECK.same("4 the one of an earlier turn", runs.drop(29), 36);
+        runs.drop(runs.draw(false));
+        CHECK.same("4 draw from the stock", runs.draw(false), 42);
+        CHECK.same("4 the one from the pile of an earlier turn", runs.drop(33), 34);
         WrapRuns over = Matches.emptied(Matches.TWO_RUNS);
         CHECK.same("4 round over", over.drop(over.card(over.match(4), 0)), -102);
         CHECK.noSuchCard("4 exception ahead of refusal", () -> over.drop(over.card(1 - over.match(4), 0)));
@@ -149,9 +152,25 @@ public final class ChangesTest {
         runs = Texts.begun(even.replace(" 36 33 29", " 36 34 29"));
         runs.draw(false);
         CHECK.same("5 K is below O", runs.knock(51), 9 - 8);
+        CHECK.same("5 the one who knocked wins", runs.match(14), 0);
+        secondKnocks();
         runs = Texts.begun(even.replace(" 36 33 29", " 36 37 29"));
         runs.draw(false);
         CHECK.same("5 a queen has 10 points", runs.knock(51), 10 - 8);
+    }
+
+    private static void secondKnocks() {
+        String hands = "cards 5 7 10 20;deck 9 22 35 10 23 36 33 0 1 2 13 14 15 46 29 51 50;stock;drop 51;stock;";
+        WrapRuns runs = Texts.begun(hands);
+        CHECK.same("5 player 1, K is O", runs.knock(50), -10);
+        CHECK.same("5 player 0 wins", runs.match(14), 0);
+        CHECK.same("5 player 0 has them", runs.match(11), 10);
+        CHECK.same("5 player 1 moved latest", runs.match(4), 1);
+        runs = Texts.begun(hands.replace(" 2 13 14 15 46", " 2 3 13 14 15").replace("10 20", "10 28"));
+        CHECK.same("5 player 1, K 0", runs.knock(50), 28);
+        CHECK.same("5 player 1 wins", runs.match(14), 1);
+        CHECK.same("5 28 of 28 of player 1", runs.match(7), 1);
+        CHECK.same("5 the match is over", runs.deal(), -8);
     }
 
     private static void addingCards() {

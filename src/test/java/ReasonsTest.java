@@ -55,7 +55,13 @@ public final class ReasonsTest {
         // Either end of A to 4 is as good, and so is any other card: the one with the most points.
         runs = Texts.begun("cards 5 7 10 100;deck 0 1 2 13 14 15 3 51 26 28 30 42 44 47 20 16;stock;");
         CHECK.same("21 REST is 0 without 4c, 4d", runs.bestDrop(), 3);
-        // Ks was drawn from the pile, so it stays; Qs is dropped though it leaves as much.
+        // Not the one with the most points: the kings are a set, and 3h is the one that is left.
+        runs = Texts.begun("cards 5 7 10 100;deck 12 25 38 0 1 2 28 13 14 30 31 42 44 47 33 3;stock;");
+        CHECK.same("21 the one that is left", runs.bestDrop(), 28);
+        // Ac is the least card, and the only one outside of the runs 2d 3d 4d 5d and Jh Qh Kh.
+        runs = Texts.begun("cards 5 7 10 100;deck 0 14 15 16 36 37 38 1 2 30 31 42 44 47 33 17;stock;");
+        CHECK.same("21 the card 0", runs.bestDrop(), 0);
+        // Ks was drawn from the pile, so it stays; 7d is dropped though Ks would leave less.
         runs = Texts.begun("cards 5 7 10 100;deck 0 1 2 13 14 15 19 26 28 30 42 44 47 33 51;pile;");
         CHECK.same("21 not the one from the pile", runs.bestDrop(), 19);
     }
@@ -75,7 +81,9 @@ public final class ReasonsTest {
         runs.draw(false);
         runs.knock(51);
         CHECK.same("22 round over", runs.restByPile(), WrapRuns.NONE);
-        // Ks from the pile must be kept: without it REST would be 0.
+        runs = Texts.begun("cards 5 7 10 100;deck 1 2 3 14 15 16 51 27 28 30 42 44 47 33 0;");
+        CHECK.same("22 the card 0 is the top", runs.restByPile(), 0);
+        // Ks from the pile must be kept: 7d goes in place of it.
         runs = Texts.begun("cards 5 7 10 100;deck 0 1 2 13 14 15 19 26 28 30 42 44 47 33 51;");
         CHECK.same("22 the top is not dropped itself", runs.restByPile(), 10);
         runs.draw(true);
@@ -91,6 +99,8 @@ public final class ReasonsTest {
         runs = Matches.holding(0, 1, 2, 13, 14, 15, 51);
         // In place of Ks: the 30 cards left of ranks 0 to 8, and Kc, Kd to the runs.
         CHECK.same("23 a king is left", runs.helping(0), 30 + 2);
+        // 2c 3c 4c and 2d 3d 4d with 2s: only Ac, 5c, Ad, 5d, and the aces As and Ah in place of 2s.
+        CHECK.same("23 the card 0 helps", Matches.holding(1, 2, 3, 14, 15, 16, 40).helping(0), 6);
         int card = runs.draw(false);
         CHECK.same("23 drawn", runs.helping(0), WrapRuns.NONE);
         CHECK.isTrue("23 the other one", runs.helping(1) >= 0);
@@ -132,6 +142,8 @@ public final class ReasonsTest {
         runs = Matches.allLaid();
         runs.draw(false);
         row(runs, "K 0", 51, 0, 0, 25, 0);
+        runs = Texts.begun(Matches.TWO_RUNS.replace(" 51 26 27 28", " 39 26 27 28").replace("29 33", "29 51") + "stock;");
+        row(runs, "K 1", 51, 0, 1, 15, 2);
         WrapRuns any = runs;
         CHECK.outOfRange("24 what -1", () -> any.ifKnock(51, -1));
         CHECK.outOfRange("24 what 4", () -> any.ifKnock(51, 4));

@@ -77,8 +77,26 @@ public final class TextTest {
         CHECK.same("2 points", runs.match(13), 0);
         CHECK.same("2 winner", runs.match(14), WrapRuns.NONE);
         CHECK.same("2 text", runs.match(16), 0);
+        anewEachTime();
         shuffled();
         decked();
+    }
+
+    /** Nothing of a text that was read, well or not, is left in the match of the next one. */
+    private static void anewEachTime() {
+        String due = Matches.state(Texts.begun("cards 9 8 5 60;"));
+        String[] before = {"stock;knock 51;", "stock;knock 51;deal;stock;", "pile;", "pile;drop 51", "stock;knock 51;x"};
+        for (String moves : before) {
+            WrapRuns runs = new WrapRuns();
+            Texts.load(runs, Matches.ALL_LAID + moves);
+            Texts.load(runs, "cards 9 8 5 60;");
+            CHECK.same("2 anew behind " + moves, Matches.state(runs), due);
+        }
+        WrapRuns runs = new WrapRuns();
+        Texts.load(runs, "cards 5 7 10 100;deck 0 1 2 13 14 15 46 9 22 35 10 23 36 33 29 51;stock;knock 51;");
+        CHECK.same("2 the other one has points", runs.match(12), 10);
+        Texts.load(runs, "cards 9 8 5 60;");
+        CHECK.same("2 anew behind points of the other one", Matches.state(runs), due);
     }
 
     private static void shuffled() {
@@ -169,7 +187,11 @@ public final class TextTest {
         wrong("", "card 1 7 10 100;", 1);
         wrong("", "cardss 1 7 10 100;", 1);
         wrong("", "Cards 1 7 10 100;", 1);
+        wrong("", "xards 1 7 10 100;", 1);
         wrong("", "1 7 10 100;", 1);
+        wrong("cards 1 7 10 100;", "xeck 1;", 1);
+        wrong("cards 1 7 10 100;", "stockz;", 1);
+        wrong("cards 1 7 10 100;", "astock;", 1);
         wrong(" \n", "", 1);
         wrong("cards ", ";1 7 10 100;", 1);
         wrong("cards 1 7 10 ", ";", 1);
