@@ -956,33 +956,32 @@ public final class WrapRuns {
     private static final class History {
         private static final int MOST = 10;
 
-        // A ring: the row at the end is the oldest one when all are in use.
+        // A ring: behind the last row comes the first one again, in place of the oldest match.
         private final Match[] past = new Match[MOST];
         private int end;
         private int count;
 
         void push(Match match) {
-            Match row = past[end];
+            int place = end >= 0 && end < MOST ? end : 0;
+            Match row = past[place];
             if (row == null) {
                 row = new Match();
-                past[end] = row;
+                past[place] = row;
             }
             row.copyFrom(match);
-            end = end + 1 < MOST ? end + 1 : 0;
+            end = place + 1;
             count = Math.min(count + 1, MOST);
         }
 
         boolean pop(Match match) {
-            if (count == 0) {
-                return false;
-            }
-            end = end > 0 ? end - 1 : MOST - 1;
-            count--;
-            Match row = past[end];
-            if (row == null) {
+            int place = end > 0 && end <= MOST ? end - 1 : MOST - 1;
+            Match row = past[place];
+            if (count == 0 || row == null) {
                 return false;
             }
             match.copyFrom(row);
+            end = place;
+            count--;
             return true;
         }
 
