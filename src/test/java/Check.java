@@ -2,9 +2,24 @@
 final class Check {
     private int asked;
     private int wrong;
+    private String name = "";
 
     interface Call {
         void run();
+    }
+
+    /** What is asked from here on is told with this name ahead of its label. */
+    void name(String newName) {
+        name = newName.isEmpty() ? "" : newName + " | ";
+    }
+
+    int asked() {
+        return asked;
+    }
+
+    void fail(String what) {
+        asked++;
+        tell(what);
     }
 
     void same(String label, long got, long due) {
@@ -60,7 +75,7 @@ final class Check {
     private void tell(String what) {
         wrong++;
         if (wrong <= 40) {
-            System.out.println("WRONG: " + what);
+            System.out.println("WRONG: " + name + what);
         }
     }
 

@@ -87,6 +87,12 @@ public final class LanguageTest {
                 fields += Modifier.isStatic(field.getModifiers()) ? 0 : 1;
             }
             CHECK.isTrue(inside + " has twenty fields at most", fields <= 20);
+            for (Method method : inside.getDeclaredMethods()) {
+                for (String call : FACE) {
+                    boolean isNamedSo = call.matches("\\w+ " + method.getName() + "\\(.*");
+                    CHECK.isTrue(method + " has a name of its own", !isNamedSo);
+                }
+            }
         }
     }
 
