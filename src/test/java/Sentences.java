@@ -134,13 +134,19 @@ final class Sentences {
     /** Ends with what no test was made for. */
     void end(String label) {
         check.name("");
-        for (String place : places.keySet()) {
-            for (Line line : places.get(place)) {
-                for (String part : place.matches("Promise \\d+|Terms.*") ? line.untested() : List.<String>of()) {
-                    check.fail(place + " has no test of: " + part);
-                }
+        for (Map.Entry<String, List<Line>> place : places.entrySet()) {
+            if (place.getKey().matches("Promise \\d+|Terms.*")) {
+                tellUntested(place.getKey(), place.getValue());
             }
         }
         check.end(label + " (" + names.size() + " sentences)");
+    }
+
+    private void tellUntested(String place, List<Line> lines) {
+        for (Line line : lines) {
+            for (String part : line.untested()) {
+                check.fail(place + " has no test of: " + part);
+            }
+        }
     }
 }
