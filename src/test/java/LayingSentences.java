@@ -113,6 +113,8 @@ final class LayingSentences {
             c.same("meld 1 begins", runs.meld(0, 1, 2), 23);
             c.same("meld 2 begins", runs.meld(0, 2, 2), 51);
             c.same("no meld 3", runs.meld(0, 3, 0), WrapRuns.NONE);
+            // The run is found by Ac, ahead of the set with 3c, though that has fewer cards.
+            laid(c, "Jc,Qc,Kc,Ac,2c 3c,3d,3s", 0, 1, 2, 10, 11, 12, 15, 41);
         });
         all.test("Terms 1", "of several, the one is taken that is found like this: card by card, by ascending numbers,"
                 + " for each card that is in no MELD yet", c -> {

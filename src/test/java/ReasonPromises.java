@@ -3,6 +3,14 @@ final class ReasonPromises {
     /** 7d is left beside two runs; Ks is the top of the pile. */
     private static final String KING_ON_PILE = "cards 5 7 10 100;deck 0 1 2 13 14 15 19 26 28 30 42 44 47 33 51 20 4;";
 
+    /** Three aces, three fives and two tens; player 1 has the threes and the eights. */
+    private static final String TWO_TENS = "cards 5 8 20 100;deck 0 13 26 4 17 30 9 22 2 15 28 41 7 20 33 46 51 35;";
+    /** As TWO_TENS, but three tens; Ks is the top of the pile. */
+    private static final String THREE_TENS =
+            "cards 5 9 20 100;deck 0 13 26 4 17 30 9 22 35 2 15 28 41 7 20 33 46 5 51 24;";
+    /** Ac is left beside Ad 2d 3d and Jh Qh Kh; Ks is the top of the pile and of the stock 9s. */
+    private static final String ACE_LEFT = "cards 5 7 20 100;deck 0 13 14 15 36 37 38 2 28 41 7 20 33 5 51 47;";
+
     private ReasonPromises() {
     }
 
@@ -56,12 +64,15 @@ final class ReasonPromises {
             c.same("Ks", Texts.begun(Matches.TWO_RUNS + "stock;").bestDrop(), 51);
             // Kings are laid: 3h is dropped, though it has the fewest points but for the aces.
             c.same("3h", Texts.begun("cards 5 7 10 100;deck 12 25 38 0 1 2 28 13 14 30 31 42 44 47 33 3;stock;").bestDrop(), 28);
+            // All nine cards are laid out: an ace is broken out of its set.
+            c.same("no card is left", Texts.begun(TWO_TENS + "stock;").bestDrop(), 0);
             // Only Ac is left beside 2d 3d 4d 5d and Jh Qh Kh.
             c.same("the card 0", Texts.begun("cards 5 7 10 100;deck 0 14 15 16 36 37 38 1 2 30 31 42 44 47 33 17;stock;").bestDrop(),
                     0);
         });
         all.test("Promise 21", "(not the one that was drawn from the PILE in this turn).", c -> {
             c.same("Ks from the pile", Texts.begun(KING_ON_PILE + "pile;").bestDrop(), 19);
+            c.same("only Ks from the pile is left", Texts.begun(THREE_TENS + "pile;").bestDrop(), 0);
             c.same("Ks from the stock", Texts.begun(KING_ON_PILE.replace("33 51", "33 9 51") + "stock;").bestDrop(), 51);
             WrapRuns later = Texts.begun(KING_ON_PILE + "pile;drop 19;stock;drop 26;stock;");
             c.same("Ks from the pile in an earlier turn", later.bestDrop(), 51);
@@ -102,6 +113,11 @@ final class ReasonPromises {
             // Ks can't be dropped itself: 7d goes.
             c.same("a card that does not help", Texts.begun(KING_ON_PILE).restByPile(), 10);
             c.same("of player 1", Texts.begun(Matches.TWO_RUNS + "stock;drop 33;").restByPile(), 4 + 4 + 7 + 8);
+            // All nine cards would be laid out, so two aces stay; or Ks and two aces, or Ks in place of Ac.
+            c.same("no card would be left", Texts.begun(TWO_TENS.replace("51 35", "35 51")).restByPile(), 2);
+            c.same("only Ks would be left", Texts.begun(THREE_TENS).restByPile(), 10 + 2);
+            c.same("Ac goes for Ks", Texts.begun(ACE_LEFT).restByPile(), 10);
+            c.same("9s goes for Ac", Texts.begun(ACE_LEFT.replace(" 0 13", " 47 13").replace("51 47", "0 51")).restByPile(), 1);
         });
         all.test("Promise 22", "Returns REST", c -> {
             WrapRuns runs = Texts.begun(KING_ON_PILE);
@@ -130,6 +146,9 @@ final class ReasonPromises {
             c.same("a king is left", Matches.holding(0, 1, 2, 13, 14, 15, 51).helping(0), 30 + 2);
             // For 2s: Ac, 5c, Ad, 5d to the runs, and the two other aces.
             c.same("a two is left", Matches.holding(1, 2, 3, 14, 15, 16, 40).helping(0), 6);
+            // For two tens: the 30 cards of less than 10 points that are not held, and the two other tens.
+            c.same("two tens are left", Texts.begun(TWO_TENS).helping(0), 32);
+            c.same("nine cards are laid", Texts.begun(THREE_TENS).helping(0), 0);
             // For As: 4c, 4d, Kc, Kd to the runs only; Ah makes a set, but then 2c and 3c are left.
             c.same("an ace is left", Matches.holding(0, 1, 2, 13, 14, 15, 39).helping(0), 4);
         });
@@ -291,9 +310,19 @@ final class ReasonPromises {
             c.same("8 is enough", runs.ifKnock(runs.bestDrop(), 0), 0);
             c.same("KNOCK does not matter", runs.needed(), 8);
             c.same("none", Texts.begun(Matches.ALL_LAID + "stock;").needed(), 0);
+            // 5d 6d 7d 8d and the aces: a run of three would leave 8d.
+            c.same("a set and a run of four", Texts.begun("cards 5 7 20 100;deck 0 13 26 17 18 19 20 2 15 28 41 7 33 46 5 51;"
+                    + "stock;").needed(), 0);
+            c.same("three sets and Qd", Texts.begun(THREE_TENS + "stock;").needed(), 0);
+            c.same("three sets, Ks and Qd", Texts.begun("cards 5 10 20 100;deck 0 13 26 4 17 30 8 21 34 51"
+                    + " 2 15 28 41 7 20 33 46 5 11 36 24;stock;").needed(), 10);
         });
         all.test("Promise 25", "Returns the least REST behind a drop that is allowed", c -> {
             c.same("Ks from the pile stays", Texts.begun(KING_ON_PILE + "pile;").needed(), 10);
+            c.same("all are laid out, so two aces stay", Texts.begun(TWO_TENS + "stock;").needed(), 2);
+            c.same("only Ks from the pile is left", Texts.begun(THREE_TENS + "pile;").needed(), 10 + 2);
+            c.same("9s goes, Ac stays", Texts.begun(ACE_LEFT + "stock;").needed(), 1);
+            c.same("Ac goes, Ks stays", Texts.begun(ACE_LEFT + "pile;").needed(), 10);
             c.same("Ks from the stock goes", Texts.begun(KING_ON_PILE.replace("33 51", "33 9 51") + "stock;").needed(), 7);
             c.same("Ks from the pile in an earlier turn goes, 5c stays",
                     Texts.begun(KING_ON_PILE + "pile;drop 19;stock;drop 26;stock;").needed(), 5);
