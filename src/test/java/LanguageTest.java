@@ -11,6 +11,9 @@ import java.util.TreeSet;
 
 /** The document's face, some of the rules of LANGUAGE.md, and the room that calls take. */
 public final class LanguageTest {
+    private static final int MOST_PARAMETERS = 7;
+    private static final int MOST_CLASSES = 12;
+    private static final int MOST_LINES = 60;
     private static final Check CHECK = new Check();
     private static final String[] FACE = {
         "int load()", "int draw(boolean)", "int drop(int) NoSuchElementException",
@@ -79,7 +82,10 @@ public final class LanguageTest {
         for (Method method : WrapRuns.class.getDeclaredMethods()) {
             boolean isPublic = Modifier.isPublic(method.getModifiers());
             CHECK.isTrue(method + " is private", isPublic || Modifier.isPrivate(method.getModifiers()));
+            CHECK.isTrue(method + " has a name of its own", isPublic || !isNamedAsTheFace(method));
+            CHECK.isTrue(method + " has few parameters", method.getParameterCount() <= MOST_PARAMETERS);
         }
+        CHECK.isTrue("twelve classes at most", WrapRuns.class.getDeclaredClasses().length < MOST_CLASSES);
         for (Class<?> inside : WrapRuns.class.getDeclaredClasses()) {
             CHECK.isTrue(inside + " is static", Modifier.isStatic(inside.getModifiers()));
             int fields = 0;
@@ -88,12 +94,19 @@ public final class LanguageTest {
             }
             CHECK.isTrue(inside + " has twenty fields at most", fields <= 20);
             for (Method method : inside.getDeclaredMethods()) {
-                for (String call : FACE) {
-                    boolean isNamedSo = call.matches("\\w+ " + method.getName() + "\\(.*");
-                    CHECK.isTrue(method + " has a name of its own", !isNamedSo);
-                }
+                CHECK.isTrue(method + " has a name of its own", !isNamedAsTheFace(method));
+                CHECK.isTrue(method + " has few parameters", method.getParameterCount() <= MOST_PARAMETERS);
             }
         }
+    }
+
+    private static boolean isNamedAsTheFace(Method method) {
+        for (String call : FACE) {
+            if (call.matches("\\w+ " + method.getName() + "\\(.*")) {
+                return true;
+            }
+        }
+        return false;
     }
 
     private static void source() throws IOException {
@@ -105,6 +118,24 @@ public final class LanguageTest {
             CHECK.isTrue("the class does without " + sign, !code.contains(sign));
         }
         CHECK.same("imports", code.split("import ", -1).length - 1, 1);
+        lengths(source.split("\n"));
+    }
+
+    /** A method's last line is the first brace behind its head that stands as far in as the head does. */
+    private static void lengths(String[] lines) {
+        int methods = 0;
+        for (int head = 0; head < lines.length; head++) {
+            if (lines[head].matches("( {4}| {8})(?!if |for |while |switch )[a-z].*\\(.*\\{")) {
+                String end = lines[head].replaceFirst("[a-z].*", "") + "}";
+                int last = head;
+                while (last < lines.length - 1 && !lines[last].equals(end)) {
+                    last++;
+                }
+                methods++;
+                CHECK.isTrue(lines[head].trim() + " is short", last - head < MOST_LINES);
+            }
+        }
+        CHECK.isTrue("the methods are found: " + methods, methods > FACE.length);
     }
 
     private static long bytesTaken() {
